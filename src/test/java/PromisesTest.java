@@ -552,6 +552,10 @@ public final class PromisesTest {
         C.due("19 just in one sight", touch.confused(), 1);
         CoastLights dark = of("light a 0 0 5 red 0;light b 10 0 5 red 0;dark b 4;");
         C.due("19 a dark OCTANT", dark.confused(), 0);
+        CoastLights corner = of("light a 0 0 1 red 0;dark a 0;dark a 2;light b 1 0 1 red 0;");
+        C.due("19 in one sight from the first cell alone", corner.confused(), 1);
+        CoastLights last = of("light a 19 19 1 red 0;dark a 4;dark a 6;light b 18 19 1 red 0;");
+        C.due("19 in one sight from the last cell alone", last.confused(), 1);
         // a path b - a - c, d - e: the cover a and d
         CoastLights path = of("light b 0 0 3 red 1;light a 5 0 3 red 1;light c 10 0 3 red 1;"
             + "light d 0 15 3 red 1;light e 4 15 3 red 1;light f 5 1 9 green 1;");
@@ -652,6 +656,11 @@ public final class PromisesTest {
         C.due("26 when none is left but one", y.ask(), 21);
         C.due("24 dark for 3", Checks.fits(y, 0, 0, 0), 15);
         C.due("26 when the dark ends", y.ask(), 38);
+        C.due("24 dark for 2", Checks.fits(y, 0, 0), 15);
+        C.due("26 to 39", y.ask(), 39);
+        C.due("24 dark for 1", Checks.fits(y, 0), 15);
+        C.due("26 none behind 39: two are left", y.ask(), 19);
+        Checks.fits(y, 0, 0, 0);
         Checks.chart(y, "");
         C.due("26 stays", y.ask(), 38);
         C.due("25 stays", y.fitsAt(3), 1);
@@ -753,6 +762,10 @@ public final class PromisesTest {
         C.due("33 in 600", edge.waits(0), 600);
         CoastLights far = of("light a 12 0 1 red 999;ship s 0 0 0 60;");
         C.due("33 not in 600", far.waits(0), NONE);
+        far.seconds(59);
+        C.due("33 in 601", far.waits(0), NONE);
+        far.seconds(1);
+        C.due("33 in 600 again", far.waits(0), 600);
         CoastLights burnt = of("light a 11 0 1 red 500;ship s 0 0 0 60;");
         C.due("33 burnt by then", burnt.waits(0), NONE);
         CoastLights over = of("light a 9 0 1 red 999;flash a 1 20;flash a 1 20;ship s 0 0 8 60;");
