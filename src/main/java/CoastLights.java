@@ -1159,8 +1159,11 @@ public final class CoastLights {
         }
 
         private boolean readLight(Tokens t) {
+            if (lightCount >= MOST_LIGHTS) {
+                return t.refuse(TOO_MANY);
+            }
             t.next();
-            if (!atNewName(t, lightCount, MOST_LIGHTS)) {
+            if (!atNewName(t)) {
                 return false;
             }
             Light light = lights[lightCount];
@@ -1258,8 +1261,11 @@ public final class CoastLights {
         }
 
         private boolean readShip(Tokens t) {
+            if (shipCount >= MOST_SHIPS) {
+                return t.refuse(TOO_MANY);
+            }
             t.next();
-            if (!atNewName(t, shipCount, MOST_SHIPS)) {
+            if (!atNewName(t)) {
                 return false;
             }
             Ship ship = ships[shipCount];
@@ -1298,14 +1304,12 @@ public final class CoastLights {
             return true;
         }
 
-        private boolean atNewName(Tokens t, int have, int most) {
+        private boolean atNewName(Tokens t) {
             if (!t.isName()) {
                 return t.refuse(CANNOT_COME);
             }
-            if (lightNamed(t.code) != NONE || shipNamed(t.code) != NONE) {
-                return t.refuse(BAD_NAME);
-            }
-            return have < most || t.refuse(TOO_MANY);
+            boolean told = lightNamed(t.code) != NONE || shipNamed(t.code) != NONE;
+            return !told || t.refuse(BAD_NAME);
         }
 
         /** The LIGHT that is named here; NONE with a FAULT. */

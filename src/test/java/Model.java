@@ -300,13 +300,15 @@ final class Model {
         return i;
     }
 
+    /** A new NAME behind the WORD of its sort, where one more than there may be is told. */
     private String fresh(World in, int have, int most) {
+        if (have == most) {
+            throw new Fault(4, peek().place);
+        }
+        at++;
         String n = name();
         if (find(in, n, false) >= 0 || find(in, n, true) >= 0) {
             throw new Fault(3, peek().place);
-        }
-        if (have == most) {
-            throw new Fault(4, peek().place);
         }
         at++;
         return n;
@@ -342,7 +344,6 @@ final class Model {
         Token first = peek();
         switch (first.text) {
             case "light": {
-                at++;
                 Light l = new Light();
                 l.name = fresh(n, n.lights.size(), 8);
                 l.x = number(0, 19);
@@ -388,7 +389,6 @@ final class Model {
                 break;
             }
             case "ship": {
-                at++;
                 Ship s = new Ship();
                 s.name = fresh(n, n.ships.size(), 4);
                 s.x = number(0, 19);

@@ -221,12 +221,24 @@ public final class PromisesTest {
         }
         CoastLights x = of(eight.toString());
         C.due("4 eight LIGHTS", x.count(0), 8);
-        badChart(eight + "light i 0 0 1 red 0;", 4, 166);
-        badChart(eight + "light h 0 0 1 red 0;", 3, 166);
-        badChart(eight + "light or 0 0 1 red 0;", 1, 166);
+        // one more stands at its first TOKEN, whatever comes behind that
+        badChart(eight + "light i 0 0 1 red 0;", 4, 160);
+        badChart(eight + "\n light i 0 0 1 red 0;", 4, 162);
+        badChart(eight + "light h 0 0 1 red 0;", 4, 160);
+        badChart(eight + "light or 0 0 1 red 0;", 4, 160);
+        badChart(eight + "light i 99 0 1 red 0;", 4, 160);
+        badChart(eight + "light", 4, 160);
+        badChart(eight + "lights", 1, 160);
+        badChart(eight + "flash h 21 1;light i 0 0 1 red 0;", 2, 168);
         String four = "ship p 0 0 0 1;ship q 0 0 0 1;ship r 0 0 0 1;ship s 0 0 0 1;";
         C.due("4 four SHIPS", of(four).count(1), 4);
-        badChart(four + "ship t 0 0 0 1;", 4, 65);
+        badChart(four + "ship t 0 0 0 1;", 4, 60);
+        badChart(four + "ship s 0 0 0 1;", 4, 60);
+        badChart(four + "ship ?", 4, 60);
+        badChart(four + "ships", 1, 60);
+        C.due("4 eight LIGHTS and four SHIPS", of(eight + four).count(0), 8);
+        badChart(eight + four + "ship t 0 0 0 1;light i 0 0 1 red 0;", 4, 220);
+        badChart(eight + four + "light i 0 0 1 red 0;ship t 0 0 0 1;", 4, 220);
         String flashes = "light a 0 0 1 red 0;" + Checks.repeat("flash a 1 1;", 4);
         C.due("4 four flashes", of(flashes).light(0, 5), 8);
         badChart(flashes + "flash a 99 1;", 4, 74);
