@@ -4,10 +4,7 @@ public final class PromisesTest {
     private static final int THREW = Checks.THREW;
     private static final Checks C = new Checks();
 
-    private static final String COAST =
-        "light a 5 5 6 white 100;light b 10 5 6 white 30;light c 18 18 4 red 0;"
-        + "flash a 2 3;flash a 1 4;flash b 1 4;flash b 2 3;from b 5;dark a 4;dark a 0;"
-        + "ship s 11 5 0 2;ship t 0 0 8 1;haze 20;";
+    private static final String COAST = Checks.COAST;
 
     public static void main(String[] args) {
         newObject();
@@ -74,14 +71,6 @@ public final class PromisesTest {
         C.due("2 high bytes are no TOKEN", x.fault(), 1);
     }
 
-    private static void badChart(String text, int kind, int place) {
-        CoastLights x = of(COAST);
-        C.due("4 chart " + text, Checks.chart(x, text), -1 - place);
-        C.due("5 fault " + text, x.fault(), kind);
-        C.due("4 it stays " + text, x.count(0), 3);
-        C.due("4 the tape is empty " + text, x.count(3), 0);
-    }
-
     private static CoastLights of(String text) {
         return Checks.of(text);
     }
@@ -98,11 +87,6 @@ public final class PromisesTest {
         C.due("4 dense", Checks.chart(x, "haze 5;ship a 0 0 0 1;ship b 19 19 8 60;"), 3);
         C.due("5 no fault", x.fault(), 0);
         newChartForgets();
-        tokenFaults();
-        numberFaults();
-        nameFaults();
-        tooManyFaults();
-        lengthFaults();
     }
 
     private static void newChartForgets() {
@@ -135,136 +119,6 @@ public final class PromisesTest {
         C.due("4 fixAt stays", x.fixAt(), 6 + 5 * 20);
         C.due("4 byteAt stays", x.byteAt(0), 's');
         C.due("4 told stays", x.told(1), 1);
-    }
-
-    private static void tokenFaults() {
-        badChart("x", 1, 0);
-        badChart(";", 1, 0);
-        badChart("5;", 1, 0);
-        badChart("  Light a", 1, 2);
-        badChart("light", 1, 5);
-        badChart("light \n", 1, 7);
-        badChart("light 5", 1, 6);
-        badChart("light abcdefgh 0 0 1 red 0;", 1, 6);
-        badChart("light a1 0 0 1 red 0;", 1, 6);
-        badChart("light 1a 0 0 1 red 0;", 1, 6);
-        badChart("light a b", 1, 8);
-        badChart("light a 0000 0 1 red 0;", 1, 8);
-        badChart("light a 0 0 1 blue 0;", 1, 14);
-        badChart("light a 0 0 1 5 0;", 1, 14);
-        badChart("light a 0 0 1 red;", 1, 17);
-        badChart("light a 0 0 1 red 0", 1, 19);
-        badChart("light a 0 0 1 red 0 haze", 1, 20);
-        badChart("light a 0 0 1 red 0;;", 1, 20);
-        badChart("light a 0 0 1 red 0.", 1, 19);
-        badChart("light a\t0", 1, 7);
-        badChart("haze 5(", 1, 6);
-        badChart("haze 5>;", 1, 6);
-        badChart("douse a;", 1, 0);
-        badChart("flash 1 1 1;", 1, 6);
-        badChart("flash light 1 1;", 1, 6);
-        for (String word : ("light flash from dark ship haze white red green douse kindle fill shift steer "
-                + "second or and not out shining fixed like by oil period range number").split(" ")) {
-            badChart("light " + word + " 0 0 1 red 0;", 1, 6);
-            badChart("ship " + word + " 0 0 0 1;", 1, 5);
-        }
-        CoastLights x = of("light lights 0 0 1 red 0;light o 0 0 1 red 0;light numbers 1 1 1 red 1;");
-        C.due("4 like WORDS told, but none", x.count(0), 3);
-    }
-
-    private static void numberFaults() {
-        badChart("light a 20 0 1 red 0;", 2, 8);
-        badChart("light a 0 20 1 red 0;", 2, 10);
-        badChart("light a 0 0 0 red 0;", 2, 12);
-        badChart("light a 0 0 31 red 0;", 2, 12);
-        String a = "light a 0 0 1 red 0;";
-        badChart(a + "flash a 0 1;", 2, 28);
-        badChart(a + "flash a 21 1;", 2, 28);
-        badChart(a + "flash a 1 0;", 2, 30);
-        badChart(a + "flash a 1 21;", 2, 30);
-        badChart(a + "from a 60;", 2, 27);
-        badChart(a + "dark a 8;", 2, 27);
-        badChart("ship s 20 0 0 1;", 2, 7);
-        badChart("ship s 0 20 0 1;", 2, 9);
-        badChart("ship s 0 0 9 1;", 2, 11);
-        badChart("ship s 0 0 0 0;", 2, 13);
-        badChart("ship s 0 0 0 61;", 2, 13);
-        badChart("haze 0;", 2, 5);
-        badChart("haze 31;", 2, 5);
-        CoastLights x = new CoastLights();
-        C.due("4 the greatest", Checks.chart(x, "light a 19 19 30 green 999;flash a 20 20;from a 59;"
-            + "dark a 7;ship s 19 19 8 60;haze 30;"), 6);
-        C.due("4 the least", Checks.chart(x, "light a 0 0 1 white 0;flash a 1 1;from a 0;"
-            + "dark a 0;ship s 0 0 0 1;haze 1;"), 6);
-    }
-
-    private static void nameFaults() {
-        String a = "light a 0 0 1 red 0;";
-        badChart(a + a, 3, 26);
-        badChart(a + "ship a 0 0 0 1;", 3, 25);
-        badChart("ship s 0 0 0 1;ship s 0 0 0 1;", 3, 20);
-        badChart("ship s 0 0 0 1;light s 0 0 1 red 1;", 3, 21);
-        badChart("ship s 0 0 0 1;flash s 0 0;", 3, 21);
-        badChart("flash a 1 1;", 3, 6);
-        badChart("from a 1;", 3, 5);
-        badChart("dark a 1;", 3, 5);
-        badChart(a + "from a 0;from a 60;", 3, 34);
-        badChart(a + "dark a 3;dark a 4;dark a 3;", 3, 45);
-        badChart("haze 4;haze 99;", 3, 7);
-        badChart("haze 4;\n haze", 3, 9);
-    }
-
-    private static void tooManyFaults() {
-        StringBuilder eight = new StringBuilder();
-        for (char c = 'a'; c <= 'h'; c++) {
-            eight.append("light ").append(c).append(" 0 0 1 red 0;");
-        }
-        CoastLights x = of(eight.toString());
-        C.due("4 eight LIGHTS", x.count(0), 8);
-        // one more stands at its first TOKEN, whatever comes behind that
-        badChart(eight + "light i 0 0 1 red 0;", 4, 160);
-        badChart(eight + "\n light i 0 0 1 red 0;", 4, 162);
-        badChart(eight + "light h 0 0 1 red 0;", 4, 160);
-        badChart(eight + "light or 0 0 1 red 0;", 4, 160);
-        badChart(eight + "light i 99 0 1 red 0;", 4, 160);
-        badChart(eight + "light", 4, 160);
-        badChart(eight + "lights", 1, 160);
-        badChart(eight + "flash h 21 1;light i 0 0 1 red 0;", 2, 168);
-        String four = "ship p 0 0 0 1;ship q 0 0 0 1;ship r 0 0 0 1;ship s 0 0 0 1;";
-        C.due("4 four SHIPS", of(four).count(1), 4);
-        badChart(four + "ship t 0 0 0 1;", 4, 60);
-        badChart(four + "ship s 0 0 0 1;", 4, 60);
-        badChart(four + "ship ?", 4, 60);
-        badChart(four + "ships", 1, 60);
-        C.due("4 eight LIGHTS and four SHIPS", of(eight + four).count(0), 8);
-        badChart(eight + four + "ship t 0 0 0 1;light i 0 0 1 red 0;", 4, 220);
-        badChart(eight + four + "light i 0 0 1 red 0;ship t 0 0 0 1;", 4, 220);
-        String flashes = "light a 0 0 1 red 0;" + Checks.repeat("flash a 1 1;", 4);
-        C.due("4 four flashes", of(flashes).light(0, 5), 8);
-        badChart(flashes + "flash a 99 1;", 4, 74);
-        badChart(flashes + "flash b 99 1;", 3, 74);
-    }
-
-    private static void lengthFaults() {
-        String start = "light a 0 0 1 red 0;";
-        CoastLights x = new CoastLights();
-        C.due("4 900 bytes", Checks.chart(x, start + Checks.repeat(" ", 880)), 1);
-        C.due("4 901 bytes", Checks.chart(x, start + Checks.repeat(" ", 881)), -901);
-        C.due("5 901 bytes", x.fault(), 1);
-        C.due("4 a FAULT behind 900", Checks.chart(x, Checks.repeat(" ", 900) + "?"), -901);
-        C.due("4 a FAULT ahead of 900", Checks.chart(x, Checks.repeat(" ", 890) + "?" + Checks.repeat(" ", 30)), -891);
-        // the WORD from 898 on is read whole: 'flashes' is a NAME, and no LINE begins with it
-        C.due("4 read whole", Checks.chart(x, Checks.repeat(" ", 898) + "flashes"), -899);
-        C.due("5 read whole", x.fault(), 1);
-        // 'haze 30' with the NUMBER over the end
-        String over = Checks.repeat(" ", 894) + "haze 30;";
-        C.due("4 a NUMBER over the end", Checks.chart(x, over), -901);
-        C.due("5 a NUMBER over the end", x.fault(), 1);
-        String bad = Checks.repeat(" ", 894) + "haze 31;";
-        C.due("4 a bad NUMBER over the end", Checks.chart(x, bad), -900);
-        C.due("5 a bad NUMBER over the end", x.fault(), 2);
-        C.due("4 the end ahead of its ;", Checks.chart(x, Checks.repeat(" ", 893) + "haze 30"), -901);
-        C.due("4 ; at 899", Checks.chart(x, Checks.repeat(" ", 892) + "haze 30;"), 1);
     }
 
     private static void lights() {
@@ -912,16 +766,6 @@ public final class PromisesTest {
         C.due("38 two seeds", y.odds(0, 2, 3), one + two);
     }
 
-    private static void badBook(String text, int kind, int place) {
-        CoastLights x = of(COAST);
-        Checks.book(x, "second 2;", 0);
-        C.due("39 book " + text, Checks.book(x, text, 1), -2 - place);
-        C.due("5 fault " + text, x.fault(), kind);
-        C.due("39 nothing is lived " + text, x.undo(), NONE);
-        C.due("39 the tape is empty " + text, x.count(3), 0);
-        C.due("40 told stays " + text, x.told(2), 2);
-    }
-
     private static void books() {
         CoastLights x = of(COAST);
         Checks.lay(x, "haze 5;");
@@ -949,30 +793,6 @@ public final class PromisesTest {
         C.due("39 one to undo", x.undo(), 0);
         C.due("39 empty", Checks.book(x, "", 1), NONE);
         C.due("39 nothing to undo", x.undo(), NONE);
-        badBook("light", 1, 0);
-        badBook("douse", 1, 5);
-        badBook("douse 1;", 1, 6);
-        badBook("douse red;", 1, 6);
-        badBook("douse a", 1, 7);
-        badBook("douse a haze", 1, 8);
-        badBook("douse x;", 3, 6);
-        badBook("douse s;", 3, 6);
-        badBook("kindle s;", 3, 7);
-        badBook("steer a 1;", 3, 6);
-        badBook("steer s 9;", 2, 8);
-        badBook("fill a 0;", 2, 7);
-        badBook("fill a 1000;", 1, 7);
-        badBook("shift a 0;", 2, 8);
-        badBook("shift a 60;", 2, 8);
-        badBook("haze 0;", 2, 5);
-        badBook("haze 31;", 2, 5);
-        badBook("haze 4;second 0;", 2, 14);
-        badBook("second 61;", 2, 7);
-        badBook(Checks.repeat("haze 1;", 40) + "haze", 4, 280);
-        badBook(Checks.repeat("haze 1;", 40) + "haz", 1, 280);
-        badBook(Checks.repeat("haze 1;", 40) + Checks.repeat(" ", 121), 1, 400);
-        badBook(Checks.repeat(" ", 397) + "haze 5;", 1, 400);
-        badBook(Checks.repeat(" ", 397) + "haz;", 1, 397);
         C.due("39 forty", Checks.book(of(COAST), Checks.repeat("haze 1;haze 2;", 20) + Checks.repeat(" ", 120), 0), NONE);
     }
 
@@ -1015,15 +835,6 @@ public final class PromisesTest {
         C.due("39 lived as far", x.now(0), 3599);
         C.due("39 another lives", x.book(5), -1000);
         C.due("40 stays", x.told(0), 61);
-    }
-
-    private static void badSentence(String text, int kind, int place) {
-        CoastLights x = of(COAST);
-        Checks.sentence(x, "range > 5");
-        C.due("41 sentence " + text, Checks.sentence(x, text), -1 - place);
-        C.due("5 fault " + text, x.fault(), kind);
-        C.due("41 it stays " + text, x.said(-1), 2);
-        C.due("41 the tape is empty " + text, x.count(3), 0);
     }
 
     private static void saidOf(String text, int ones, int... lights) {
@@ -1075,48 +886,6 @@ public final class PromisesTest {
         CoastLights none = new CoastLights();
         C.due("41 without LIGHTS", Checks.sentence(none, "not out"), 2);
         C.due("42 without LIGHTS", none.said(-1), 0);
-        badSentences();
-    }
-
-    private static void badSentences() {
-        badSentence("", 1, 0);
-        badSentence("  ", 1, 2);
-        badSentence("and", 1, 0);
-        badSentence("a", 1, 0);
-        badSentence("out;", 1, 3);
-        badSentence("out out", 1, 4);
-        badSentence("out and", 1, 7);
-        badSentence("out or or", 1, 7);
-        badSentence("(out", 1, 4);
-        badSentence("out)", 1, 3);
-        badSentence("()", 1, 1);
-        badSentence("not", 1, 3);
-        badSentence("like", 1, 4);
-        badSentence("like x", 3, 5);
-        badSentence("like s", 3, 5);
-        badSentence("like out", 1, 5);
-        badSentence("by a", 3, 3);
-        badSentence("by 5", 1, 3);
-        badSentence("oil 5", 1, 4);
-        badSentence("oil ( 5", 1, 4);
-        badSentence("oil < red", 1, 6);
-        badSentence("oil < 1000", 1, 6);
-        badSentence("oil < = 5", 1, 6);
-        String twenty = "out" + Checks.repeat(" or out", 19);
-        C.due("41 twenty", Checks.sentence(of(COAST), twenty), 20);
-        badSentence(twenty + " or out", 4, twenty.length() + 4);
-        badSentence(twenty + " or like x", 4, twenty.length() + 4);
-        badSentence(twenty + " or red", 1, twenty.length() + 4);
-        C.due("41 eight within", Checks.sentence(of(COAST), Checks.repeat("not ", 7) + "out"), 8);
-        C.due("41 eight within", Checks.sentence(of(COAST), Checks.repeat("(", 7) + "out" + Checks.repeat(")", 7)), 8);
-        badSentence(Checks.repeat("not ", 8) + "out", 4, 32);
-        badSentence(Checks.repeat("(", 8) + "out" + Checks.repeat(")", 8), 4, 8);
-        badSentence("(((((((out and not out", 4, 19);
-        badSentence(Checks.repeat("(", 9), 4, 8);
-        C.due("41 200 bytes", Checks.sentence(of(COAST), "out" + Checks.repeat(" ", 197)), 1);
-        badSentence("out" + Checks.repeat(" ", 198), 1, 200);
-        badSentence(Checks.repeat(" ", 198) + "out", 1, 200);
-        badSentence(Checks.repeat(" ", 198) + "outs", 1, 198);
     }
 
     private static void images() {
