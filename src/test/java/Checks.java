@@ -197,6 +197,27 @@ final class Checks {
         return all.toString();
     }
 
+    /** What a seed becomes for its next draw. */
+    static int next(int x) {
+        return x * 1103515245 + 12345;
+    }
+
+    /** The first seed from one on whose draws are as wanted: pairs of how many there are and which one. */
+    static int seedFrom(int first, int... ofAndWanted) {
+        for (int seed = first; seed != first + 1000000; seed++) {
+            int x = seed;
+            boolean good = true;
+            for (int i = 0; i + 1 < ofAndWanted.length && good; i += 2) {
+                x = next(x);
+                good = (x >>> 8) % ofAndWanted[i] == ofAndWanted[i + 1];
+            }
+            if (good) {
+                return seed;
+            }
+        }
+        throw new IllegalStateException("no such seed");
+    }
+
     /** Eight LIGHTS a to h, each told as behind its NAME. */
     static String eight(String told) {
         StringBuilder s = new StringBuilder();

@@ -68,7 +68,7 @@ public final class QuestionEdgesTest {
         x = of(A + B + "flash a 3 3;flash b 3 3;flash b 3 3;");
         C.due("one row twice", x.light(0, 9), 0);
         C.due("though not APART", x.apart(0, 1), NONE);
-        C.says("two unlike LIGHTS: what is so besides does not matter");
+        C.says("ALIKE are two unlike LIGHTS of one COLOUR and one PERIOD");
         x = of("light a 0 0 1 red 0;light b 19 19 30 red 99;flash a 1 2;flash b 1 2;from b 1;dark b 3;");
         x.douse(1);
         x.shift(0, 2);
@@ -118,7 +118,7 @@ public final class QuestionEdgesTest {
     }
 
     private static void beyondTheChart() {
-        C.says("from some cell: of the CHART, 0 to 19 each");
+        C.says("both VISIBLE from some cell");
         bothBeyond("0 19", 2, "1 19", 3, 380);
         bothBeyond("0 0", 4, "0 1", 5, 0);
         bothBeyond("19 0", 0, "19 1", 7, 19);
@@ -153,7 +153,7 @@ public final class QuestionEdgesTest {
         C.due("round a square", x.confused(), 4);
         C.due("two across", x.change(), 2);
         C.due("the least of two such", x.changes(), 5);
-        C.says("CHANGE: how many LIGHTS: none, if there is no such pair");
+        C.says("CHANGE: how many LIGHTS");
         Checks.chart(x, A);
         C.due("it stays with a new CHART", x.changes(), 5);
         C.due("one LIGHT", x.change(), 0);
@@ -191,7 +191,7 @@ public final class QuestionEdgesTest {
         C.due("just behind the LIGHTS", x.apart(0, 3), NONE);
         C.due("just behind the LIGHTS", x.apart(3, 0), NONE);
         C.due("no LIGHTS", new CoastLights().apart(0, 0), NONE);
-        C.says("What a LIGHT SHOWS .. by its CHARACTER (OUT, OIL no matter)");
+        C.says("What a LIGHT SHOWS in a SECOND by its CHARACTER .. (OUT, OIL no matter)");
         x.douse(0);
         x.douse(1);
         C.due("OUT", x.apart(0, 2), 21);
@@ -319,7 +319,7 @@ public final class QuestionEdgesTest {
             C.due("fitsAt " + bad, x.fitsAt(bad), NONE);
         }
         C.due("just behind the LIGHTS", x.fitsAt(3), NONE);
-        C.says("by the latest fits() above 0: one of 0, or NONE, leaves it");
+        C.says("by the latest fits() above 0");
         Checks.fits(x, 3);
         C.due("0", x.fitsAt(0), 5);
         Checks.fits(x, 4);
@@ -411,7 +411,7 @@ public final class QuestionEdgesTest {
         C.due("all of eight", all.spots(255), 400);
         C.due("of 0", all.spots(0), 0);
         C.due("a ninth", all.spots(256), NONE);
-        C.says("The first of them by the latest spots() above 0; NONE ahead of any. Of several cells the first: 20 by y and x");
+        C.says("The first of them by the latest spots() above 0; NONE ahead of any .. Of several cells the first: 20 by y and x");
         x = of("light a 19 19 1 red 0;dark a 4;dark a 6;");
         C.due("ahead of any", x.spotsAt(), NONE);
         x.spots(2);

@@ -25,6 +25,7 @@ public final class StateEdgesTest {
         undone();
         undoneInTurn();
         notKept();
+        lived();
         newChart();
         thrown();
         drawn();
@@ -32,6 +33,7 @@ public final class StateEdgesTest {
         drawnOfNone();
         images();
         counts();
+        calls();
         C.close();
     }
 
@@ -259,7 +261,7 @@ public final class StateEdgesTest {
         String scene = Checks.scene(x);
         C.says("To DOUSE a LIGHT: 1 it is OUT");
         notDone(x, "douse", x.douse(1), 1, scene);
-        C.says("it has OIL or not: it is OUT");
+        C.says("To DOUSE a LIGHT: 1 it is OUT: it is OUT");
         C.due("douse without OIL", x.douse(2), 0);
         C.due("OUT", x.now(2), 6);
         C.due("undone", x.undo(), 1);
@@ -267,7 +269,7 @@ public final class StateEdgesTest {
         notDone(x, "not OUT", x.kindle(0), 1, scene);
         notDone(x, "not OUT, and no OIL", x.kindle(2), 1, scene);
         notDone(x, "no OIL", x.kindle(1), 2, scene);
-        C.says("DOUSED, KINDLED: NONE: no such one");
+        C.says("A LIGHT is DOUSED: 0, or why not; NONE: no such one .. It is KINDLED: 0, or why not; NONE: no such one");
         for (int l : NO_LIGHT) {
             notDone(x, "douse " + l, x.douse(l), NONE, scene);
             notDone(x, "kindle " + l, x.kindle(l), NONE, scene);
@@ -350,7 +352,7 @@ public final class StateEdgesTest {
             notDone(x, "haze " + n, x.haze(n), NONE, scene);
         }
         C.due("nothing was done", x.undo(), NONE);
-        C.says("it is; it is n");
+        C.says("To STEER a SHIP: 1 that is its COURSE: it is. HAZE of n: 1 it is so: it is n");
         C.due("to the least COURSE", x.steer(0, 0), 0);
         C.due("to the greatest COURSE", x.steer(1, 8), 0);
         C.due("COURSES", x.ship(0, 2) * 10 + x.ship(1, 2), 8);
@@ -382,7 +384,7 @@ public final class StateEdgesTest {
         C.due("each of eight", all.now(5), 16);
         all.seconds(60);
         C.due("not below 0", all.now(5), 0);
-        C.says("seconds(): n (1 to 60) SECONDS go by .. NONE: not as told");
+        C.says("n (1 to 60) SECONDS go by: how many did; NONE: not as told");
         String scene = Checks.scene(x);
         for (int n : new int[] {0, -1, 61, Integer.MIN_VALUE, Integer.MAX_VALUE}) {
             notDone(x, "seconds " + n, x.seconds(n), NONE, scene);
@@ -534,7 +536,7 @@ public final class StateEdgesTest {
         C.due("another lives", Checks.book(x, "haze 3;", 3), -1000);
         C.due("all stays", Checks.scene(x), scene);
         C.due("nothing to undo", x.undo(), NONE);
-        C.says("an act that is not done takes no place of the eight");
+        C.says("haze() that was done .. (8 at most are kept)");
         for (int i = 1; i <= 8; i++) {
             C.due("haze", x.haze(i), 0);
         }
@@ -553,7 +555,7 @@ public final class StateEdgesTest {
             C.due("HAZE", x.now(4), left > 0 ? left : 20);
         }
         C.due("none is", x.undo(), NONE);
-        C.says("what is undone can not be undone again");
+        C.says("is undone: how many more can be");
         x.haze(3);
         x.haze(4);
         x.undo();
@@ -562,6 +564,34 @@ public final class StateEdgesTest {
         C.due("HAZE", x.now(4), 3);
         C.due("back", x.undo(), 0);
         C.due("HAZE", x.now(4), 20);
+    }
+
+    // ---- a BOOK
+
+    private static void lived() {
+        C.says("it is judged, all staying as it is (lives 0), or lived as far as it is not WRONG (1)");
+        CoastLights x = afloat();
+        String scene = Checks.scene(x);
+        String forty = "second 1;haze 1;haze 2;" + "haze 1;haze 2;".repeat(18) + "douse b;";
+        C.due("judged", Checks.book(x, forty, 0), 39);
+        C.due("all stays", Checks.scene(x), scene);
+        C.due("lived", Checks.book(x, forty, 1), 39);
+        C.due("as far as that", x.now(4) * 100 + x.now(0), 208);
+        C.due("undone at once", x.undo(), 0);
+        C.due("all is back", Checks.scene(x), scene);
+        C.due("lived, the first LINE WRONG", Checks.book(x, "douse b;haze 1;second 1;", 1), 0);
+        C.due("nothing is lived, nor behind it", Checks.scene(x), scene);
+        C.due("lived whole", Checks.book(x, "douse a;second 60;kindle a;kindle b;second 1;", 1), NONE);
+        CoastLights y = afloat();
+        C.due("as by calls", y.douse(0) + y.seconds(60) + y.kindle(0) + y.kindle(1) + y.seconds(1), 61);
+        C.due("as by calls", Checks.scene(x), Checks.scene(y));
+        C.says("the LINE that is WRONG (from 0); NONE: none");
+        C.due("no LINES", Checks.book(x, "", 0), NONE);
+        C.due("no LINES", Checks.book(new CoastLights(), "", 1), NONE);
+        C.due("the first", Checks.book(x, "haze 20;", 0), 0);
+        C.due("the second", Checks.book(x, "haze 19;haze 19;haze 19;", 0), 1);
+        C.due("the last", Checks.book(x, "haze 19;haze 20;haze 20;", 0), 2);
+        C.due("all of them right", Checks.book(x, "haze 19;haze 20;", 0), NONE);
     }
 
     // ---- a new CHART, a call that throws
@@ -625,26 +655,6 @@ public final class StateEdgesTest {
 
     // ---- DRAWN
 
-    private static int next(int x) {
-        return x * 1103515245 + 12345;
-    }
-
-    /** The first seed from one on whose draws are as wanted: pairs of how many there are and which one. */
-    private static int seedFrom(int first, int... ofAndWanted) {
-        for (int seed = first; seed != first + 1000000; seed++) {
-            int x = seed;
-            boolean good = true;
-            for (int i = 0; i + 1 < ofAndWanted.length && good; i += 2) {
-                x = next(x);
-                good = (x >>> 8) % ofAndWanted[i] == ofAndWanted[i + 1];
-            }
-            if (good) {
-                return seed;
-            }
-        }
-        throw new IllegalStateException();
-    }
-
     private static void drawn() {
         C.says("n (1 to 60) SECONDS DRAWN by a seed: how many went by; NONE: not as told");
         CoastLights x = afloat();
@@ -659,33 +669,33 @@ public final class StateEdgesTest {
         C.says("x becomes x * 1103515245 + 12345 (an int, wrapping), the draw is (x >>> 8) % n");
         for (int first : new int[] {0, -5, Integer.MIN_VALUE, Integer.MAX_VALUE, 0x12345678}) {
             x = afloat();
-            int seed = seedFrom(first, 6, 3, 30, 0);
+            int seed = Checks.seedFrom(first, 6, 3, 30, 0);
             C.due("seed " + seed, x.drawn(1, seed), 1);
             C.due("HAZE by " + seed, x.now(4), 1);
-            seed = seedFrom(first, 6, 3, 30, 29);
+            seed = Checks.seedFrom(first, 6, 3, 30, 29);
             x.drawn(1, seed);
             C.due("HAZE by " + seed, x.now(4), 30);
-            seed = seedFrom(first, 6, 1, 2, 1, 9, 8);
+            seed = Checks.seedFrom(first, 6, 1, 2, 1, 9, 8);
             x.drawn(1, seed);
             C.due("COURSE by " + seed, x.ship(1, 2), 8);
-            seed = seedFrom(first, 6, 1, 2, 1, 9, 0);
+            seed = Checks.seedFrom(first, 6, 1, 2, 1, 9, 0);
             x.drawn(1, seed);
             C.due("COURSE by " + seed, x.ship(1, 2), 0);
         }
         // -1 becomes -1103502900, and that >>> 8 is 12466609: 1 of 6
         x = of("ship s 5 5 8 60;");
         x.drawn(1, -1);
-        C.due("a draw of -1 by hand", (next(-1) >>> 8) % 6, 12466609 % 6);
-        C.due("COURSE by -1", x.ship(0, 2), (next(next(next(-1))) >>> 8) % 9);
+        C.due("a draw of -1 by hand", (Checks.next(-1) >>> 8) % 6, 12466609 % 6);
+        C.due("COURSE by -1", x.ship(0, 2), (Checks.next(Checks.next(Checks.next(-1))) >>> 8) % 9);
         C.says("2: a draw of all LIGHTS, of 20 (and 1): it is FILLED with that");
         x = of("light a 0 0 1 red 0;light b 0 0 1 red 0;");
         x.douse(0);
-        x.drawn(1, seedFrom(0, 6, 2, 2, 0, 20, 0));
+        x.drawn(1, Checks.seedFrom(0, 6, 2, 2, 0, 20, 0));
         C.due("the least", x.light(0, 4), 1);
-        x.drawn(1, seedFrom(0, 6, 2, 2, 0, 20, 19));
+        x.drawn(1, Checks.seedFrom(0, 6, 2, 2, 0, 20, 19));
         C.due("the greatest", x.light(0, 4), 21);
         C.says("then the SECOND");
-        x.drawn(1, seedFrom(0, 6, 2, 2, 1, 20, 4));
+        x.drawn(1, Checks.seedFrom(0, 6, 2, 2, 1, 20, 4));
         C.due("it SHINES behind that", x.light(1, 4), 4);
     }
 
@@ -693,21 +703,21 @@ public final class StateEdgesTest {
         C.says("each, if it can be");
         CoastLights x = of("light a 0 0 1 red 0;ship s 9 9 8 60;haze 12;");
         x.douse(0);
-        x.drawn(1, seedFrom(0, 6, 0, 1, 0));
+        x.drawn(1, Checks.seedFrom(0, 6, 0, 1, 0));
         C.due("not KINDLED without OIL", x.now(2), 1);
         x.fill(0, 1);
-        x.drawn(1, seedFrom(0, 6, 0, 1, 0));
+        x.drawn(1, Checks.seedFrom(0, 6, 0, 1, 0));
         C.due("KINDLED, and it SHINES", x.now(2) * 10 + x.now(5), 0);
-        x.drawn(1, seedFrom(0, 6, 0, 1, 0));
+        x.drawn(1, Checks.seedFrom(0, 6, 0, 1, 0));
         C.due("DOUSED", x.now(2), 1);
         x.fill(0, 980);
-        x.drawn(1, seedFrom(0, 6, 2, 1, 0, 20, 19));
+        x.drawn(1, Checks.seedFrom(0, 6, 2, 1, 0, 20, 19));
         C.due("not FILLED to 1000", x.now(5), 980);
-        x.drawn(1, seedFrom(0, 6, 2, 1, 0, 20, 18));
+        x.drawn(1, Checks.seedFrom(0, 6, 2, 1, 0, 20, 18));
         C.due("FILLED to 999", x.now(5), 999);
-        x.drawn(1, seedFrom(0, 6, 1, 1, 0, 9, 8));
+        x.drawn(1, Checks.seedFrom(0, 6, 1, 1, 0, 9, 8));
         C.due("STEERED as it goes", x.ship(0, 2), 8);
-        x.drawn(1, seedFrom(0, 6, 3, 30, 11));
+        x.drawn(1, Checks.seedFrom(0, 6, 3, 30, 11));
         C.due("HAZE as it is", x.now(4), 12);
         C.due("SECONDS went by all the same", x.now(0), 7);
         C.due("each can be undone", x.undo(), 7);
@@ -720,14 +730,14 @@ public final class StateEdgesTest {
         int then = 0;
         boolean good = false;
         for (; !good; seed++) {
-            int n = next(seed);
+            int n = Checks.next(seed);
             good = (n >>> 8) % 6 == first;
             for (int i = 1; i < drawsAhead; i++) {
-                n = next(n);
+                n = Checks.next(n);
             }
-            n = next(n);
+            n = Checks.next(n);
             good &= (n >>> 8) % 6 == 3;
-            then = (next(n) >>> 8) % 30 + 1;
+            then = (Checks.next(n) >>> 8) % 30 + 1;
             good &= then != 30;
         }
         x.drawn(2, seed - 1);
@@ -744,7 +754,7 @@ public final class StateEdgesTest {
         hazeOfTheSecond(light, 1, 1);
         hazeOfTheSecond(ship, 0, 1);
         hazeOfTheSecond(ship, 2, 1);
-        C.says("0: a draw of all LIGHTS .. 1: a draw of all SHIPS, of 9 .. 2: a draw of all LIGHTS, of 20: of one alone, too");
+        C.says("0: a draw of all LIGHTS .. 1: a draw of all SHIPS, of 9 .. 2: a draw of all LIGHTS, of 20");
         hazeOfTheSecond(light, 0, 2);
         hazeOfTheSecond(ship, 1, 3);
         hazeOfTheSecond(light, 2, 3);
@@ -803,6 +813,16 @@ public final class StateEdgesTest {
         C.due("the tape's BOOK knows its HAZE", x.book(1), NONE);
         C.due("lived", x.now(4), 1);
         C.due("an empty CHART", new CoastLights().image(0), true);
+    }
+
+    private static void calls() {
+        C.says("An object is used for at most 512 calls after it has been made");
+        CoastLights x = of(A + "ship s 0 0 8 60;");
+        // its CHART took five: end(), feed() twice, end(), chart()
+        for (int calls = 5; calls < 511; calls += 2) {
+            C.due("haze", x.haze(calls / 2 % 29 + 1) + x.haze(30), 0);
+        }
+        C.due("call 512", x.undo(), 7);
     }
 
     private static void counts() {

@@ -765,7 +765,7 @@ public final class TextEdgesTest {
             C.due("book " + text, Checks.book(x, text, 1) < -1, true);
             C.due("after " + text, Checks.scene(x), scene);
         }
-        C.says("-1 less the place of a FAULT: it stays (the SENTENCE)");
+        C.says("The tape is the SENTENCE now .. -1 less the place of a FAULT: it stays");
         for (String text : new String[] {"", "?", "shining or", "shining?", "not not not like x", "shining shining"}) {
             C.due("sentence " + text, Checks.sentence(x, text) < 0, true);
             C.due("after " + text, Checks.scene(x), scene);
@@ -802,7 +802,7 @@ public final class TextEdgesTest {
         x.book(0);
         Checks.book(x, "?", -1);
         C.due("after none", x.fault(), 0);
-        C.says("FAULT of the latest: other calls leave it");
+        C.says("the latest chart(), book() or sentence()");
         Checks.chart(x, "haze 0;");
         Checks.fits(x, 9);
         Checks.fix(x, 9);
