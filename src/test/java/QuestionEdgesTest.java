@@ -56,6 +56,13 @@ public final class QuestionEdgesTest {
         C.due("long rows, turned about", x.light(1, 9), 1);
         C.due("a long row of other SECONDS", x.light(2, 9), 0);
         C.due("another PERIOD", x.light(3, 9), 0);
+        String longRows = "flash a 20 20;flash b 20 20;";
+        Checks.chart(x, A + B + longRows);
+        Checks.chart(x, A + B + "flash a 2 1;flash b 1 2;");
+        C.due("110 and 100, told behind longer rows", x.light(0, 9) + x.light(1, 9), 0);
+        Checks.chart(x, A + B + longRows);
+        Checks.chart(x, A + B + "flash a 1 2;flash b 2 1;");
+        C.due("100 and 110, told behind longer rows", x.light(0, 9) + x.light(1, 9), 0);
         x = of(A + B + "flash a 20 20;".repeat(4) + "flash b 20 20;".repeat(4));
         C.due("the longest rows", x.light(0, 9) * 10 + x.light(1, 9), 21);
         C.says("or at the same one");
@@ -328,6 +335,9 @@ public final class QuestionEdgesTest {
         C.due("one that is above 0", x.fitsAt(0) * 10 + x.fitsAt(2), -10);
         Checks.chart(x, "");
         C.due("the LIGHTS of then", x.fitsAt(2), 0);
+        Checks.chart(x, "light z 0 0 1 white 0;");
+        Checks.fits(x, 1);
+        C.due("the LIGHTS of now", x.fitsAt(0) * 10 + x.fitsAt(2), -1);
         x = of(Checks.eight("0 0 1 red 0") + "flash h 1 1;");
         Checks.fits(x, 0);
         C.due("the eighth alone", x.fitsAt(7) * 10 + x.fitsAt(6), 9);
@@ -453,6 +463,13 @@ public final class QuestionEdgesTest {
         C.due("LIGHT 1 of one", Checks.fix(of(A), 1, 0), NONE);
         C.due("no LIGHTS", Checks.fix(new CoastLights(), 0, 0), NONE);
         C.due("OCTANT 7 of the LIGHT that is alone", Checks.fix(of("light a 9 9 1 red 0;"), 0, 7, 0, 7) > 0, true);
+        // one pair, and bytes behind it that are cut
+        x.feed(0x0001ffff, 0xffffffff, 0xffffffff, 0xffffffff, 0xffffffff);
+        x.end(2);
+        C.due("what is cut is not told", x.fix(), 1);
+        x.feed(0x0001ffff, 0xffffffff, 0xffffffff, 0xffffffff, 0xffffffff);
+        x.end(3);
+        C.due("a byte more is", x.fix(), NONE);
         C.says("how many cells there are that lie so from each");
         C.due("two OCTANTS of one", Checks.fix(x, 0, 1, 1, 2), 0);
         C.due("the last pair tells", Checks.fix(x, 0, 1, 0, 1, 0, 1, 0, 1, 0, 1, 0, 2), 0);
